@@ -23,8 +23,10 @@ public final class FaceTest {
         same("methods", FACE, methodsShownBy(face));
         same("constants", CONSTANTS, constantsShownBy(face));
         same("constructors", Set.of("public SinEaters()"), constructorsOf(face));
+        checkNames(face, face);
         for (Class<?> inside : face.getDeclaredClasses()) {
-            checkInside(face, inside);
+            checkInside(inside);
+            checkNames(face, inside);
         }
         System.out.println(wrong == 0 ? "the face is as due" : wrong + " parts of the face are not as due");
         if (wrong != 0) {
@@ -72,16 +74,21 @@ public final class FaceTest {
         return shown;
     }
 
-    /** Classes inside are static and not public, and no private method bears the name of a public one. */
-    private static void checkInside(Class<?> face, Class<?> inside) {
+    /** Classes inside are static and not public. */
+    private static void checkInside(Class<?> inside) {
         int modifiers = inside.getModifiers();
         if (!Modifier.isStatic(modifiers) || Modifier.isPublic(modifiers) || Modifier.isProtected(modifiers)) {
             wrong++;
             System.out.println(inside + " is not as due");
         }
-        for (Method method : inside.getDeclaredMethods()) {
-            for (Method shown : face.getMethods()) {
-                if (shown.getDeclaringClass() == face && shown.getName().equals(method.getName())) {
+    }
+
+    /** No private method bears the name of a public one. */
+    private static void checkNames(Class<?> face, Class<?> where) {
+        for (Method method : where.getDeclaredMethods()) {
+            for (Method shown : face.getDeclaredMethods()) {
+                boolean own = shown.equals(method) || !Modifier.isPublic(shown.getModifiers());
+                if (!own && shown.getName().equals(method.getName())) {
                     wrong++;
                     System.out.println(method + " bears the name of a public one");
                 }

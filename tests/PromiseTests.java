@@ -26,6 +26,7 @@ public final class PromiseTests {
         say();
         forget();
         winters();
+        draws();
         image();
         restore();
         count();
@@ -211,6 +212,7 @@ public final class PromiseTests {
         SinEaters x = read("t5,e6;1234");
         x.eat(0, 0);
         x.winter();
+        x.eat(0, 1);
         x.die(1);
         x.say(1, 2, true);
         x.image();
@@ -465,6 +467,7 @@ public final class PromiseTests {
         dueRow("the less ones behind", spreadAll(read("e3,r9;3010")), 4, 0, 0, -1, -1, -1, -1, -1, -1);
         dueRow("a beggar carries half", spreadAll(read("e9,b9;555555")), 10, 0, 1, 1, -1, -1, -1, -1, -1);
         dueRow("of like ones the first", spreadAll(read("p0,p0,p0;90102030")), 9, 0, 1, 1, 1, -1, -1, -1, -1);
+        dueRow("a later way is better", spreadAll(read("e3,p0;133522")), 8, 1, 0, 1, -1, -1, -1, -1, -1);
         spreadBehindMeals();
         SinEaters x = read("e1,e1;11");
         dueRow("outside", row(x.spread(-1), x.spread(1), x.spread(9), x.spread(18), x.spread(Integer.MIN_VALUE)),
@@ -572,6 +575,18 @@ public final class PromiseTests {
         due("behind a winter they would", hungry.winters(4, 5, 0), 1);
     }
 
+    /** From seed 1 the draws are 16838, 5758, 10113, 17515, 31051, 5627, 23010, 7419. */
+    private static void draws() {
+        promise = 16;
+        SinEaters x = read("e0,e0,p0;11223330");
+        due("eater 2 eats loaf 2", x.winters(1, 1, 1), 6);
+        due("eater 0 would not eat loaf 3, nor would eater 1", x.winters(3, 1, 0), 1);
+        due("behind a winter eater 0 would", x.winters(4, 1, 0), 2);
+        due("and carries it", x.winters(4, 1, 1), 9);
+        due("the seed then", x.winters(1, 1, 2) / 65536, 5758);
+        due("the seed at the end", x.winters(4, 1, 2) / 65536, 7419);
+    }
+
     private static void image() {
         promise = 17;
         due("no valley", new SinEaters().image(), STATE);
@@ -597,7 +612,8 @@ public final class PromiseTests {
         x.eat(2, 1);
         x.winter();
         x.forget();
-        x.say(2, 90, true);
+        x.say(3, 90, false);
+        x.say(2, 0, true);
         x.die(1);
         due("it was changed", x.digest() == before ? 1 : 0, 0);
         due("restore()", x.restore(), 1);

@@ -232,12 +232,12 @@ public final class SinEaters {
 
     public long digest() {
         long h = 1019;
-        for (int eater = 0; now.isEater(eater); eater++) {
+        for (int eater = 0; eater < now.eaters; eater++) {
             for (int what = 0; what <= ABOUT_MOST; what++) {
                 h = 31 * h + aboutEater(eater, what);
             }
         }
-        for (int loaf = 0; now.isLoaf(loaf); loaf++) {
+        for (int loaf = 0; loaf < now.loaves; loaf++) {
             for (int what = 0; what <= LOAF_MOST; what++) {
                 h = 31 * h + aboutLoaf(loaf, what);
             }
@@ -326,7 +326,7 @@ public final class SinEaters {
             tryLoavesFrom(loaf + 1, most, valley, plan);
             return;
         }
-        for (int eater = 0; valley.isEater(eater); eater++) {
+        for (int eater = 0; eater < EATERS_MOST; eater++) {
             if (valley.wouldTake(eater, loaf)) {
                 int hungerBefore = valley.hunger[eater];
                 valley.takeWhole(eater, loaf);
@@ -536,9 +536,10 @@ public final class SinEaters {
                 carried[eater] = 0;
                 paid[eater] = 0;
             }
-            for (int loaf = 0; isLoaf(loaf); loaf++) {
-                deeds[loaf] = page.digitAt(end + 1 + 2 * loaf);
-                hidden[loaf] = page.digitAt(end + 2 + 2 * loaf);
+            for (int loaf = 0; loaf < LOAVES_MOST; loaf++) {
+                boolean there = loaf < loaves;
+                deeds[loaf] = there ? page.digitAt(end + 1 + 2 * loaf) : 0;
+                hidden[loaf] = there ? page.digitAt(end + 2 + 2 * loaf) : 0;
             }
         }
 
@@ -607,8 +608,8 @@ public final class SinEaters {
         }
 
         private void passWinter() {
-            for (int eater = 0; isEater(eater); eater++) {
-                if (isAlive(eater)) {
+            for (int eater = 0; eater < EATERS_MOST; eater++) {
+                if (isEater(eater) && isAlive(eater)) {
                     hunger[eater] = Math.min(hunger[eater] + 3, DIGIT_MOST);
                     if (kinds[eater] == TRAMP) {
                         carried[eater] = 0;
@@ -633,7 +634,7 @@ public final class SinEaters {
 
         private int takenNow(int eater) {
             int bits = 0;
-            for (int loaf = 0; isLoaf(loaf); loaf++) {
+            for (int loaf = 0; loaf < LOAVES_MOST; loaf++) {
                 if (wouldTake(eater, loaf)) {
                     bits |= 1 << loaf;
                 }
@@ -660,8 +661,8 @@ public final class SinEaters {
                 return false;
             }
             int left = hunger[eater];
-            for (int loaf = 0; isLoaf(loaf); loaf++) {
-                if (hasBit(bits, loaf)) {
+            for (int loaf = 0; loaf < LOAVES_MOST; loaf++) {
+                if (isLoaf(loaf) && hasBit(bits, loaf)) {
                     if (!stomachs(kinds[eater], left, deeds[loaf])) {
                         return false;
                     }
@@ -673,8 +674,8 @@ public final class SinEaters {
 
         private int deedsOf(int bits) {
             int sum = 0;
-            for (int loaf = 0; isLoaf(loaf); loaf++) {
-                if (hasBit(bits, loaf)) {
+            for (int loaf = 0; loaf < LOAVES_MOST; loaf++) {
+                if (isLoaf(loaf) && hasBit(bits, loaf)) {
                     sum += deeds[loaf];
                 }
             }
@@ -713,8 +714,8 @@ public final class SinEaters {
         /** What these loaves give to carry, if so much were hidden in the one of them that is in doubt. */
         private int carriedOf(int bits, int doubted, int inside) {
             int sum = 0;
-            for (int loaf = 0; isLoaf(loaf); loaf++) {
-                if (hasBit(bits, loaf)) {
+            for (int loaf = 0; loaf < LOAVES_MOST; loaf++) {
+                if (isLoaf(loaf) && hasBit(bits, loaf)) {
                     sum += deeds[loaf] + (loaf == doubted ? inside : hidden[loaf]);
                 }
             }
