@@ -1,10 +1,5 @@
 /** At least one test for each promise of the document: ordinary inputs, the edges it names, wrong inputs. */
-public final class PromiseTests {
-    private static final int NONE = -1, UNKNOWN = -101, OUTSIDE = -102, STATE = -103, FULL = -104;
-
-    private static int promise = 0;
-    private static int wrong = 0;
-
+public final class PromiseTests extends Checks {
     public static void main(String[] args) {
         newObject();
         letter();
@@ -31,87 +26,11 @@ public final class PromiseTests {
         restore();
         count();
         digest();
-        System.out.println(wrong == 0 ? "all promises are kept" : wrong + " answers are not as due");
-        if (wrong != 0) {
-            System.exit(1);
-        }
-    }
-
-    private static void due(String call, long got, long want) {
-        if (got != want) {
-            wrong++;
-            System.out.println("promise " + promise + ": " + call + " answered " + got + ", due is " + want);
-        }
-    }
-
-    /** Some calls in a row, told together. */
-    private static void dueRow(String calls, int[] got, int... want) {
-        for (int i = 0; i < want.length; i++) {
-            due(calls + " [" + i + "]", i < got.length ? got[i] : Long.MIN_VALUE, want[i]);
-        }
-        due(calls + ", how many", got.length, want.length);
-    }
-
-    private static int[] row(int... numbers) {
-        return numbers;
-    }
-
-    private static SinEaters write(SinEaters x, String text) {
-        for (int i = 0; i < text.length(); i++) {
-            x.letter(text.charAt(i));
-        }
-        return x;
-    }
-
-    private static SinEaters read(String text) {
-        SinEaters x = write(new SinEaters(), text);
-        x.valley();
-        return x;
-    }
-
-    private static int faultOf(String text) {
-        return write(new SinEaters(), text).fault();
-    }
-
-    private static int valleyOf(String text) {
-        return write(new SinEaters(), text).valley();
-    }
-
-    private static int[] aboutAll(SinEaters x, int eater) {
-        int[] all = new int[8];
-        for (int what = 0; what < all.length; what++) {
-            all[what] = x.about(eater, what);
-        }
-        return all;
-    }
-
-    private static int[] countAll(SinEaters x) {
-        int[] all = new int[11];
-        for (int what = 0; what < all.length; what++) {
-            all[what] = x.count(what);
-        }
-        return all;
-    }
-
-    private static int[] spreadAll(SinEaters x) {
-        int[] all = new int[9];
-        all[0] = x.spread(0);
-        for (int loaf = 0; loaf < 8; loaf++) {
-            all[loaf + 1] = x.spread(10 + loaf);
-        }
-        return all;
-    }
-
-    private static long digestOf(long... numbers) {
-        long h = 1019;
-        for (long one : numbers) {
-            h = 31 * h + one;
-        }
-        return h;
+        end("all promises are kept");
     }
 
     private static void newObject() {
-        promise = 1;
+        says("Promise 1");
         SinEaters x = new SinEaters();
         dueRow("count of a new object", countAll(x), 0, 0, 0, 0, 0, 0, 0, 0, 0, 0, 0);
         due("winter()", x.winter(), STATE);
@@ -125,7 +44,7 @@ public final class PromiseTests {
     }
 
     private static void letter() {
-        promise = 2;
+        says("Promise 2");
         SinEaters x = new SinEaters();
         due("letter(31)", x.letter(31), OUTSIDE);
         due("letter(127)", x.letter(127), OUTSIDE);
@@ -144,7 +63,7 @@ public final class PromiseTests {
     }
 
     private static void blank() {
-        promise = 3;
+        says("Promise 3");
         SinEaters x = new SinEaters();
         due("blank() of an empty page", x.blank(), 0);
         write(x, "zzz");
@@ -160,7 +79,7 @@ public final class PromiseTests {
     }
 
     private static void fault() {
-        promise = 4;
+        says("Promise 4");
         due("empty", faultOf(""), 0);
         String whole = "e0,p1,r2,b3;0123456789";
         for (int length = 0; length <= whole.length(); length++) {
@@ -193,7 +112,7 @@ public final class PromiseTests {
     }
 
     private static void valley() {
-        promise = 5;
+        says("Promise 5");
         due("one loaf", valleyOf("e1,e2;34"), 1);
         due("five loaves", valleyOf("e1,p2,r3,b4;0011223344"), 5);
         due("empty page", valleyOf(""), STATE);
@@ -231,7 +150,7 @@ public final class PromiseTests {
     }
 
     private static void about() {
-        promise = 6;
+        says("Promise 6");
         SinEaters x = read("e4,p0,r9,b7;425171");
         dueRow("an eater", aboutAll(x, 0), 0, 4, 1, 0, 0, 1, 4, 1);
         dueRow("a pauper", aboutAll(x, 1), 1, 0, 1, 0, 0, 7, 16, 7);
@@ -253,7 +172,7 @@ public final class PromiseTests {
     }
 
     private static void fed() {
-        promise = 6;
+        says("Promise 6");
         SinEaters tired = read("e5,t0;5040302010");
         due("5, then 3: 5 and 3 fit behind each other", tired.about(0, 6), 9);
         due("by loaves 0, 2 and 4", tired.about(0, 7), 21);
@@ -275,7 +194,7 @@ public final class PromiseTests {
     }
 
     private static void as() {
-        promise = 7;
+        says("Promise 7");
         SinEaters one = read("e1,p1,r1,b1;11");
         int[][] want = {{0, NONE, NONE, NONE, NONE}, {1, 1, NONE, NONE, NONE},
             {2, NONE, 2, NONE, NONE}, {3, NONE, NONE, 3, NONE}};
@@ -297,7 +216,7 @@ public final class PromiseTests {
     }
 
     private static void loaf() {
-        promise = 8;
+        says("Promise 8");
         SinEaters x = read("e9,p1;0987");
         dueRow("loaf 0", row(x.loaf(0, 0), x.loaf(0, 1), x.loaf(0, 2), x.loaf(0, 3), x.loaf(0, 4)),
             0, 9, 0, 1023, 4);
@@ -318,7 +237,7 @@ public final class PromiseTests {
     }
 
     private static void baked() {
-        promise = 8;
+        says("Promise 8");
         SinEaters x = read("e9,p1;523461");
         x.say(3, 12, true);
         due("5 and 7, and more than 0 hidden", x.loaf(0, 3), 1022);
@@ -346,7 +265,7 @@ public final class PromiseTests {
     }
 
     private static void ask() {
-        promise = 8;
+        says("Promise 8");
         SinEaters x = read("e9,p1;900012");
         due("0 to 9 hidden behind 9: halves at 13", x.loaf(0, 4), 13);
         due("behind 0: at 4", x.loaf(1, 4), 4);
@@ -362,7 +281,7 @@ public final class PromiseTests {
     }
 
     private static void eat() {
-        promise = 9;
+        says("Promise 9");
         SinEaters x = read("e6,p0,r9,b9;6371829000");
         due("an eater at his hunger", x.eat(0, 0), 9);
         dueRow("he is paid, and less hungry", row(x.about(0, 1), x.about(0, 3), x.about(0, 4)), 4, 9, 6);
@@ -390,7 +309,7 @@ public final class PromiseTests {
     }
 
     private static void halve() {
-        promise = 10;
+        says("Promise 10");
         SinEaters x = read("e5,p0,r9,b9;5470508199");
         due("an eater and a pauper", x.halve(0, 1, 0), 9);
         dueRow("first", row(x.about(0, 1), x.about(0, 3), x.about(0, 4)), 4, 5, 3);
@@ -417,7 +336,7 @@ public final class PromiseTests {
     }
 
     private static void winter() {
-        promise = 11;
+        says("Promise 11");
         due("no valley", new SinEaters().winter(), STATE);
         SinEaters x = read("t7,e6,p0,e0;22315400");
         x.eat(0, 0);
@@ -434,7 +353,7 @@ public final class PromiseTests {
     }
 
     private static void die() {
-        promise = 12;
+        says("Promise 12");
         SinEaters x = read("t7,e6,p0,e0;22990109");
         x.eat(2, 0);
         x.eat(2, 1);
@@ -458,7 +377,7 @@ public final class PromiseTests {
     }
 
     private static void spread() {
-        promise = 13;
+        says("Promise 13");
         due("no valley", new SinEaters().spread(0), STATE);
         due("no valley, outside", new SinEaters().spread(1), OUTSIDE);
         dueRow("two like loaves", spreadAll(read("e9,e9;2222")), 4, 0, 1, NONE, NONE, NONE, NONE, NONE, NONE);
@@ -497,7 +416,7 @@ public final class PromiseTests {
     }
 
     private static void spreadTwelveTimes() {
-        promise = 13;
+        says("Promise 13");
         SinEaters x = read("e1,r1;22");
         x.image();
         for (int i = 1; i <= 6; i++) {
@@ -515,7 +434,7 @@ public final class PromiseTests {
     }
 
     private static void say() {
-        promise = 14;
+        says("Promise 14");
         SinEaters x = new SinEaters();
         due("no valley", x.say(0, 0, true), STATE);
         due("no valley, outside", x.say(0, 100, true), OUTSIDE);
@@ -537,7 +456,7 @@ public final class PromiseTests {
     }
 
     private static void forget() {
-        promise = 15;
+        says("Promise 15");
         due("no valley", new SinEaters().forget(), 0);
         SinEaters x = read("e1,e1;1122");
         x.say(1, 50, true);
@@ -550,7 +469,7 @@ public final class PromiseTests {
     }
 
     private static void winters() {
-        promise = 16;
+        says("Promise 16");
         SinEaters none = new SinEaters();
         due("no valley", none.winters(1, 0, 0), STATE);
         due("no valley, outside", none.winters(0, 0, 0), OUTSIDE);
@@ -577,7 +496,7 @@ public final class PromiseTests {
 
     /** From seed 1 the draws are 16838, 5758, 10113, 17515, 31051, 5627, 23010, 7419. */
     private static void draws() {
-        promise = 16;
+        says("Promise 16");
         SinEaters x = read("e0,e0,p0;11223330");
         due("eater 2 eats loaf 2", x.winters(1, 1, 1), 6);
         due("eater 0 would not eat loaf 3, nor would eater 1", x.winters(3, 1, 0), 1);
@@ -588,7 +507,7 @@ public final class PromiseTests {
     }
 
     private static void image() {
-        promise = 17;
+        says("Promise 17");
         due("no valley", new SinEaters().image(), STATE);
         SinEaters x = read("p1,e9;1122");
         due("none was eaten", x.image(), 0);
@@ -599,7 +518,7 @@ public final class PromiseTests {
     }
 
     private static void restore() {
-        promise = 18;
+        says("Promise 18");
         due("no valley", new SinEaters().restore(), STATE);
         SinEaters x = read("p1,e9,t4;112233");
         due("none was kept", x.restore(), STATE);
@@ -631,7 +550,7 @@ public final class PromiseTests {
     }
 
     private static void count() {
-        promise = 19;
+        says("Promise 19");
         SinEaters x = read("p1,e9,t4;112233");
         dueRow("at first", countAll(x), 3, 3, 3, 0, 0, 0, 0, 0, 0, 1, 0);
         x.eat(1, 0);
@@ -649,7 +568,7 @@ public final class PromiseTests {
     }
 
     private static void digest() {
-        promise = 20;
+        says("Promise 20");
         SinEaters x = new SinEaters();
         due("empty", x.digest(), digestOf(0, 0, 0, 0, 0, 0, 0, 0, 0, 0, 0));
         write(x, "~ ");
