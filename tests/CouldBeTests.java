@@ -60,6 +60,9 @@ public final class CouldBeTests extends Checks {
         due("0 behind 1: not below 0", read("e1,r9;1000").spread(0), 1);
         due("1 behind 1", read("e1,r9;1010").spread(0), NONE);
         due("1 behind 1, by two", read("e1,b1;1010").spread(0), 1);
+        dueRow("3 behind 1 he would not, 3 alone he would", spreadAll(read("e3,p0;133522")),
+            8, 1, 0, 1, NONE, NONE, NONE, NONE, NONE);
+        dueRow("9 not behind 5", spreadAll(read("e9,p0;509080")), 13, 1, 0, 1, NONE, NONE, NONE, NONE, NONE);
         due("five by a pauper", read("r9,p0;9999999999").spread(0), 90);
     }
 
@@ -265,6 +268,14 @@ public final class CouldBeTests extends Checks {
 
     private static void bakedAllSaid() {
         says("so that all SAID is so");
+        SinEaters again = read("p0,p0;52");
+        again.say(1, 7, true);
+        again.say(1, 9, false);
+        due("3 and 4", again.loaf(0, 3), 0b11000);
+        again.forget();
+        again.say(1, 7, false);
+        again.say(1, 6, true);
+        due("2", again.loaf(0, 3), 0b100);
         SinEaters x = read("p0,p0;5234");
         x.say(1, 7, true);
         x.say(1, 10, false);

@@ -26,6 +26,7 @@ public final class LateEdgeTests extends Checks {
         countOutside();
         digestOfAll();
         digestWraps();
+        refusalsTheFirstAsTold();
         refusalsChangeNothing();
         theLastOfAllCalls();
         end("the bounds and refusals of promises 13 to 20 are as the document tells them");
@@ -109,7 +110,7 @@ public final class LateEdgeTests extends Checks {
     }
 
     private static void spreadEachByItself() {
-        says("HUNGER as it is then, each time anew");
+        says("HUNGER as it is then");
         SinEaters x = read("e9,r0;1090");
         due("1 ahead of 9", x.spread(0), NONE);
         due("who eats the first", x.spread(10), NONE);
@@ -348,6 +349,33 @@ public final class LateEdgeTests extends Checks {
         less.say(0, 0, true);
         due("a NONE is -1", less.digest(), digestOf(2, 0, 1, 0, 0, 0, 0, 0, 2, 0, 1, 0, 0, 0, 0, 0,
             1, 1, 0, 0, -1, 2, 2, 1, 0, 0, 0, 0, 1, 0, 1, 0));
+    }
+
+    private static void refusalsTheFirstAsTold() {
+        says("Refusals, of several the first as told by each call");
+        SinEaters none = new SinEaters();
+        dueRow("no valley, and outside", row(none.spread(9), none.say(1, 100, true), none.winters(0, 0, 0)),
+            OUTSIDE, OUTSIDE, OUTSIDE);
+        dueRow("no valley, and a number", row(none.about(0, 9), none.as(0, 9), none.loaf(0, 9), none.eat(0, 0),
+            none.halve(0, 1, 0), none.die(0)), UNKNOWN, UNKNOWN, UNKNOWN, UNKNOWN, UNKNOWN, UNKNOWN);
+        SinEaters x = read("r0,r0,r0,r0;9999999999");
+        write(x, "eeeeeeeeeeeeeeeeeeeeeeee");
+        due("OUTSIDE ahead of FULL", x.letter(200), OUTSIDE);
+        x.die(0);
+        x.die(1);
+        x.die(2);
+        dueRow("UNKNOWN, STATE, FULL", row(x.die(4), x.die(0), x.die(3)), UNKNOWN, STATE, FULL);
+        dueRow("UNKNOWN ahead of STATE", row(x.eat(4, 0), x.eat(3, 8), x.halve(3, 3, 0), x.halve(0, 1, 8)),
+            UNKNOWN, UNKNOWN, UNKNOWN, UNKNOWN);
+        for (int many = 1; many <= 6; many++) {
+            x.say(0, 0, true);
+        }
+        dueRow("OUTSIDE ahead of FULL", row(x.say(256, 0, true), x.say(0, 100, true), x.say(0, 0, true)),
+            OUTSIDE, OUTSIDE, FULL);
+        for (int done = 1; done <= 12; done++) {
+            x.spread(0);
+        }
+        dueRow("OUTSIDE ahead of STATE", row(x.spread(18), x.spread(17)), OUTSIDE, STATE);
     }
 
     private static void refusalsChangeNothing() {

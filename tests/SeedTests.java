@@ -249,8 +249,8 @@ public final class SeedTests extends Checks {
         x.image();
         int first = x.loaf(0, 3);
         x.forget();
-        x.say(2, 4, true);
-        x.say(2, 9, false);
+        x.say(2, 4, false);
+        x.say(2, 9, true);
         x.say(2, 9, true);
         x.restore();
         due("count(7)", x.count(7), 2);

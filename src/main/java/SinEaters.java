@@ -498,7 +498,7 @@ public final class SinEaters {
         private int said;
         private final int[] saidLoaves = new int[SAID_MOST];
         private final int[] saidMuch = new int[SAID_MOST];
-        private final boolean[] saidMore = new boolean[SAID_MOST];
+        private int saidMore;
 
         private boolean isRead() {
             return eaters > 0;
@@ -558,7 +558,7 @@ public final class SinEaters {
             copyRow(other.hidden, hidden);
             copyRow(other.saidLoaves, saidLoaves);
             copyRow(other.saidMuch, saidMuch);
-            System.arraycopy(other.saidMore, 0, saidMore, 0, SAID_MOST);
+            saidMore = other.saidMore;
         }
 
         private boolean wouldTake(int eater, int loaf) {
@@ -686,7 +686,7 @@ public final class SinEaters {
             if (said >= 0 && said < SAID_MOST) {
                 saidLoaves[said] = bits;
                 saidMuch[said] = much;
-                saidMore[said] = more;
+                saidMore = more ? saidMore | 1 << said : saidMore & ~(1 << said);
                 said++;
             }
         }
@@ -704,7 +704,7 @@ public final class SinEaters {
         private boolean allSaidHolds(int loaf, int inside) {
             for (int one = 0; one < said && one < SAID_MOST; one++) {
                 boolean isMore = carriedOf(saidLoaves[one], loaf, inside) > saidMuch[one];
-                if (isMore != saidMore[one]) {
+                if (isMore != hasBit(saidMore, one)) {
                     return false;
                 }
             }
