@@ -1,4 +1,4 @@
-/** Promises 1 to 20, their own bounds and refusals: a test for each sentence that names one. */
+/** Promises 1 to 12, their own bounds and refusals: a test for each sentence that names one. */
 public final class EdgeTests extends Checks {
     private static final String FULL_PAGE = "eeeeeeeeeeeeeeeeeeeeeeee";
 
